@@ -71,6 +71,15 @@ public final class ComingTest {
         TripCalls edge = Check.house("1p99l88");
         edge.limit(1, 9);
         CHECK.dueAsked("both at once", edge, edge.trips(0), 9, 0);
+        TripCalls alone = Check.house("1p19p29");
+        alone.flip(4);
+        alone.flip(5);
+        // the other one rests from STEP 0 on, so it is alone and ANSWERED in STEPS 1 to 3
+        CHECK.dueAsked("ANSWERED alone", alone, alone.trips(1), 6, 3);
+        TripCalls last = Check.house("2t23l16l32");
+        last.flip(2);
+        last.flip(3);
+        CHECK.dueAsked("the 60th STEP", last, last.trips(2), 60, 40);
     }
 
     private static void worst() {
@@ -83,6 +92,9 @@ public final class ComingTest {
         CHECK.dueAsked("none trips", y, y.worst(), 0, 3);
         y.flip(6);
         CHECK.dueAsked("all trip in STEP 6", y, y.worst(), 7, 0);
+        TripCalls last = Check.house("1t18s79l48");
+        last.flip(3);
+        CHECK.dueAsked("behind 60 STEPS", last, last.worst(), 60, 0);
     }
 
     private static void aside() {

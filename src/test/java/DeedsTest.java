@@ -13,6 +13,8 @@ public final class DeedsTest {
         undo();
         keepAndOn();
         undoOfKept();
+        keptDeedsOfAllSorts();
+        fortieth();
         CHECK.end();
     }
 
@@ -182,6 +184,50 @@ public final class DeedsTest {
         CHECK.due("keep(0) over it", x.keep(0), 0);
         CHECK.due("kept HOUSES", x.count(10), 2);
         CHECK.dueFinding("on(1), missing", x, 0, x.on(1), NOTHING);
+    }
+
+    /** Each DEED is done again as it was, though others were done in between. */
+    private static void keptDeedsOfAllSorts() {
+        TripCalls x = Check.house("1t12p99p99");
+        x.flip(6);
+        x.room(3);
+        x.limit(1, 4);
+        x.step();
+        x.reset(2);
+        x.keep(1);
+        long kept = x.digest();
+        x.undo(0);
+        x.limit(2, 7);
+        x.flip(1);
+        x.flip(2);
+        x.room(8);
+        x.step();
+        CHECK.due("on(1)", x.on(1), 5);
+        CHECK.due("as it was kept", x.digest(), kept);
+        CHECK.due("undo(4)", x.undo(4), 1);
+        CHECK.due("undo(3)", x.undo(3), 1);
+        CHECK.due("PATTERN", x.count(5), 255 - 64);
+        CHECK.due("ROOM", x.count(6), 3);
+        CHECK.dueCaller("its LIMIT", x, 1, 0, 4, 9, 0, 0, 0, 9);
+    }
+
+    /** Each sort of DEED may be the last of 40. */
+    private static void fortieth() {
+        TripCalls x = Check.house("9p11p11");
+        Check.steps(x, 39);
+        CHECK.due("flip", x.flip(3), 7);
+        x.undo(39);
+        CHECK.due("room", x.room(8), 9);
+        x.undo(39);
+        CHECK.due("limit", x.limit(1, 8), 1);
+        x.undo(39);
+        CHECK.due("reset", x.reset(1), 0);
+        x.undo(39);
+        CHECK.due("lots", x.lots(1, 8), 78);
+        x.undo(39);
+        CHECK.due("two lots", x.lots(2, 8), TripCalls.FULL);
+        CHECK.due("step", x.step(), 2);
+        CHECK.due("DEEDS", x.count(2), 40);
     }
 
     private static void undoOfKept() {

@@ -49,20 +49,13 @@ public final class PlansTest {
 
     /** To trip one in good time may leave room for the others. */
     private static void mendByTakingOut() {
-        TripCalls x = Check.house("1p99p19");
-        // now both get FAULTS till the second one trips at once, in any case
-        CHECK.due("no SLOT helps", x.mend(1), TripCalls.NONE);
-        TripCalls y = Check.house("1s29p99");
-        // s calls in STEPS 0 and 2: it trips in STEP 2; of 4 STEPS 1 and 3 are ANSWERED
-        CHECK.dueAsked("as it is", y, y.later(0, 4), 1, 2);
-        CHECK.due("no SLOT helps", y.mend(4), TripCalls.NONE);
-        TripCalls z = Check.house("1s19p21");
-        z.limit(0, 2);
-        z.step();
-        CHECK.due("STEP 1 is ANSWERED by PLAIN", z.later(0, 1) * 10 + z.asked(), 1);
-        TripCalls w = Check.house("2p11p19p19");
-        // three call, room for two: all trip in STEP 0 in any case
-        CHECK.due("no SLOT helps", w.mend(8), TripCalls.NONE);
+        TripCalls x = Check.house("1e11b24");
+        // both call in STEPS 0, 2, 4; by a FAULT in STEP 1 the BLIND one trips, and the other one is alone
+        CHECK.dueAsked("as it is", x, x.later(0, 5), 1, 2);
+        CHECK.dueAsked("without SLOT 1", x, x.mend(5), 1, 3);
+        TripCalls y = Check.house("3s59l29");
+        y.flip(0);
+        CHECK.dueAsked("SLOT 0 is put in", y, y.mend(6), 0, 9);
     }
 
     private static void tune() {
@@ -74,15 +67,15 @@ public final class PlansTest {
         // by LIMIT 1 it trips in STEP 1 and rests in 2 and 3: 2 + 0 + 1 + 1
         CHECK.dueAsked("LIMIT 2 is enough", y, y.tune(0, 4), 2, 6);
         CHECK.dueAsked("it is alike in one STEP: the first", y, y.tune(0, 1), 1, 2);
-        TripCalls z = Check.house("2p12p93");
-        for (int s = 0; s < 8; s++) {
-            z.flip(s);
-        }
-        z.flip(0);
-        Check.steps(z, 8);
-        z.reset(0);
-        z.flip(7);
-        CHECK.dueAsked("now UP", z, z.tune(0, 1), 1, 2);
+        y.flip(0);
+        CHECK.dueAsked("nobody is ANSWERED in any case: the first", y, y.tune(0, 1), 1, 0);
+        // of each 8 STEPS two bring FAULTS: by LIMIT 3 it never trips, nor does the other one
+        CHECK.dueAsked("40 STEPS", y, y.tune(0, 40), 3, 60);
+        TripCalls z = Check.house("1l31t84");
+        CHECK.dueAsked("LIMIT 9", z, z.tune(0, 20), 9, 11);
+        z.limit(0, 9);
+        z.later(0, 20);
+        CHECK.due("as later() tells of LIMIT 9", z.asked(), 11);
     }
 
     private static void hush() {

@@ -135,5 +135,11 @@ public final class RowsTest {
         CHECK.dueAsked("mean of great ones", x, x.mean(0), 1, Integer.MAX_VALUE);
         Check.fill(x, 0, Integer.MIN_VALUE, Integer.MIN_VALUE);
         CHECK.dueAsked("mean of least ones", x, x.mean(0), 1, Integer.MIN_VALUE);
+        Check.fill(x, 0, 7);
+        CHECK.dueAsked("mean of one", x, x.mean(0), 1, 7);
+        x.row(0, 40);
+        x.lay(0, 0, 40);
+        x.lay(0, 39, 41);
+        CHECK.dueAsked("mean of 40", x, x.mean(0), 1, 2);
     }
 }

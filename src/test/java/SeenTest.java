@@ -93,6 +93,9 @@ public final class SeenTest {
         Check.fill(y, 0, 2, 2);
         // all but SLOW, all of them CLOSED for ever
         CHECK.dueAsked("never told apart", y, y.test(1, 0), 1, 5);
+        TripCalls z = Check.house("1p42s19");
+        Check.fill(z, 0, 0);
+        CHECK.dueAsked("the 20th STEP", z, z.test(1, 0), 20, 3);
     }
 
     private static void refusedInOrder() {
@@ -123,6 +126,8 @@ public final class SeenTest {
         x.lay(0, 19, -1);
         dueAll(x, "the last is below 0", UNLIKE);
         CHECK.due("asked() is the latest lay()'s", x.asked(), 8);
+        Check.fill(x, 0, 8, 2);
+        dueAll(x, "the first is 8", UNLIKE);
     }
 
     private static void dueAll(TripCalls x, String how, int finding) {

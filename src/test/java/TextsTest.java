@@ -10,6 +10,7 @@ public final class TextsTest {
         faultOfEachLetter();
         house();
         houseAnew();
+        houseBehindAside();
         caller();
         mark();
         up();
@@ -150,6 +151,22 @@ public final class TextsTest {
         CHECK.due("nothing to undo", x.undo(1), TripCalls.BAD);
         Check.write(x, 0, "x");
         CHECK.due("the TEXT is another one, the HOUSE is not", x.count(0), 2);
+    }
+
+    /** What was tried aside must not be left in a HOUSE that is made later. */
+    private static void houseBehindAside() {
+        TripCalls x = Check.house("1p23p99");
+        x.hush(20);
+        x.later(0, 60);
+        CHECK.due("house(0)", x.house(0), 2);
+        CHECK.due("STEP", x.count(1), 0);
+        CHECK.due("ANSWERED", x.count(3), 0);
+        CHECK.due("FAULTS", x.count(4), 0);
+        x.hush(20);
+        x.house(0);
+        CHECK.due("all call", x.calls(), 3);
+        x.hush(20);
+        CHECK.dueAsked("nobody is hushed any more", x, x.later(0, 5), 2, 3);
     }
 
     private static void caller() {

@@ -57,6 +57,7 @@ public final class TripCalls {
     private int latestFinding = 0;
     private final int[] findingCounts = new int[FINDINGS + 1];
 
+    private final Choice choice = new Choice();
     /** What is ANSWERED by each PATTERN in a duel, MISSING while it has not been tried. */
     private final int[] byPattern = new int[PATTERNS];
     /** How many KINDS are in each state, by the STEP of a look. */
@@ -404,19 +405,14 @@ public final class TripCalls {
         if (now.size == 0) {
             return STATE;
         }
-        int most = -1;
-        int choice = NONE;
+        choice.begin(-1);
         for (int figure = 1; figure <= FIGURE_MOST; figure++) {
             aside.become(now);
             aside.room = figure;
-            int answered = aside.answeredIn(n);
-            if (answered > most) {
-                most = answered;
-                choice = figure;
-            }
+            choice.offer(figure, aside.answeredIn(n));
         }
-        told = most;
-        return choice;
+        told = choice.most;
+        return choice.which;
     }
 
     public int mend(int n) {
@@ -427,40 +423,30 @@ public final class TripCalls {
             return STATE;
         }
         aside.become(now);
-        int most = aside.answeredIn(n);
-        int choice = NONE;
+        choice.begin(aside.answeredIn(n));
         for (int s = 0; s < SLOTS; s++) {
             aside.become(now);
             aside.pattern ^= 1 << s;
-            int answered = aside.answeredIn(n);
-            if (answered > most) {
-                most = answered;
-                choice = s;
-            }
+            choice.offer(s, aside.answeredIn(n));
         }
-        if (choice != NONE) {
-            told = most;
+        if (choice.which != NONE) {
+            told = choice.most;
         }
-        return choice;
+        return choice.which;
     }
 
     public int tune(int i, int n) {
         if (!isCaller(i) || n < 1 || n > PLAN_MOST) {
             return BAD;
         }
-        int most = -1;
-        int choice = NONE;
+        choice.begin(-1);
         for (int figure = 1; figure <= FIGURE_MOST; figure++) {
             aside.become(now);
             aside.callers[i].limit = figure;
-            int answered = aside.answeredIn(n);
-            if (answered > most) {
-                most = answered;
-                choice = figure;
-            }
+            choice.offer(figure, aside.answeredIn(n));
         }
-        told = most;
-        return choice;
+        told = choice.most;
+        return choice.which;
     }
 
     public int hush(int n) {
@@ -470,21 +456,13 @@ public final class TripCalls {
         if (now.size == 0) {
             return STATE;
         }
-        int most = -1;
-        int choice = 0;
-        int sets = 1 << now.size;
-        for (int set = 0; set < sets; set++) {
-            aside.become(now);
-            aside.hushed = set;
-            int answered = aside.answeredIn(n);
-            boolean fewer = Integer.bitCount(set) < Integer.bitCount(choice);
-            if (answered > most || (answered == most && fewer)) {
-                most = answered;
-                choice = set;
-            }
+        choice.begin(-1);
+        // small sets come first, so that the first one by which most are ANSWERED is the one to tell
+        for (int many = 0; many <= now.size; many++) {
+            offerSetsOf(many, n);
         }
-        told = most;
-        return choice;
+        told = choice.most;
+        return choice.which;
     }
 
     // ---- 5 what it was
@@ -542,16 +520,16 @@ public final class TripCalls {
         }
         countAlike(i, set);
         int least = KINDS + 1;
-        int choice = NONE;
+        int when = NONE;
         for (int t = 1; t <= LOOK_MOST; t++) {
             int part = greatestPart(t);
             if (part < least) {
                 least = part;
-                choice = t;
+                when = t;
             }
         }
         told = least;
-        return choice;
+        return when;
     }
 
     // ---- 6 by turns
@@ -756,6 +734,18 @@ public final class TripCalls {
         now.become(first);
         for (int d = 0; d < deeds.size; d++) {
             now.carryOut(deeds.what[d], deeds.whom[d], deeds.number[d]);
+        }
+    }
+
+    /** Offers what is ANSWERED in n STEPS with so many CALLERS kept from calling. */
+    private void offerSetsOf(int many, int n) {
+        int sets = 1 << now.size;
+        for (int set = 0; set < sets; set++) {
+            if (Integer.bitCount(set) == many) {
+                aside.become(now);
+                aside.hushed = set;
+                choice.offer(set, aside.answeredIn(n));
+            }
         }
     }
 
@@ -1257,6 +1247,25 @@ public final class TripCalls {
                     break;
                 default:
                     break;
+            }
+        }
+    }
+
+    /** The first of several by which most are ANSWERED. */
+    private static final class Choice {
+        int most;
+        int which;
+
+        /** Only what brings more than this is chosen. */
+        void begin(int toBeat) {
+            most = toBeat;
+            which = NONE;
+        }
+
+        void offer(int one, int answered) {
+            if (answered > most) {
+                most = answered;
+                which = one;
             }
         }
     }

@@ -9,23 +9,25 @@ import java.util.List;
  *   row(0, 3) = 3               a call and its answer; or BAD, FULL, STATE, NONE, or a FINDING's name
  *   at(0, 2) = 1 asked 7        .. and what asked() tells then
  *   mid(6) = 1 of 7 8           .. and what upper() and lower() tell then
- *   step() >= 0                 a call and the least that its answer may be
  *   tear(0..5) = NOTHING        the call once for each number
  *   do 39 step()                so many times, none of them refused
  *   new                         another object
  *   house 9p11p11               a HOUSE by this TEXT, which is TEXT 0
+ *   write 2 9p11p11             TEXT 2 alone
  *   fill 2 5 6 7                ROW 2 with these ints
  *   caller 0: 2 1 5 1 0 5 10    all that caller() tells
  *   reads "9 p11" = 5           the FAULT of a TEXT, and whether house() takes it, by another object
  *   hold, held                  digest() is now as it was at the hold ahead
  *   digest of 0 0 1             digest() by these numbers
+ *   constant NONE -9            what a constant of the class is
  *
  * MIN and MAX are the least and the greatest int. What is refused, or answered NONE, is not told to a twin of the
  * object; both must be alike whenever that happened, and in all that they have kept and can undo at the end.
  */
 final class Edge {
     private static final List<String> FINDINGS = List.of("", "NOTHING", "BEYOND", "UNLIKE", "NOUGHT", "SIZE");
-    private static final int CALLS_MOST = 512;
+    /** An object is used for 512 calls; end() makes some 30 of them. */
+    private static final int CALLS_MOST = 480;
 
     private final String name;
     private final Check check;
@@ -52,12 +54,6 @@ final class Edge {
 
     void run(String line) {
         String[] words = line.split(" +");
-        if (line.contains(" >= ")) {
-            String text = line.substring(0, line.indexOf(" >= "));
-            long least = Long.parseLong(line.substring(line.indexOf(" >= ") + 4));
-            due(text + " is less than due", callBoth(text) >= least ? 0 : 1, 0);
-            return;
-        }
         if (words[0].contains("(")) {
             dueCall(line);
             return;
@@ -66,6 +62,8 @@ final class Edge {
             case "do": doTimes(numberOf(words[1]), line.substring(line.indexOf(words[2]))); break;
             case "new": end(); begin(); break;
             case "house": makeHouse(line.substring(6)); break;
+            case "write": write(words[1], line.substring(8)); break;
+            case "constant": dueConstant(words[1], numberOf(words[2])); break;
             case "fill": fill(words); break;
             case "caller": dueCaller(words); break;
             case "reads": reads(line); break;
@@ -201,14 +199,14 @@ final class Edge {
     }
 
     private void makeHouse(String text) {
-        write(text);
+        write("0", text);
         due("house " + text, callBoth("house(0)") >= 2 ? 1 : 0, 1);
     }
 
-    private void write(String text) {
-        callBoth("text(0, " + text.length() + ")");
+    private void write(String t, String text) {
+        callBoth("text(" + t + ", " + text.length() + ")");
         for (int i = 0; i < text.length(); i++) {
-            callBoth("put(0, " + i + ", " + (int) text.charAt(i) + ")");
+            callBoth("put(" + t + ", " + i + ", " + (int) text.charAt(i) + ")");
         }
     }
 
@@ -221,13 +219,21 @@ final class Edge {
 
     private void reads(String line) {
         begin();
-        write(line.substring(line.indexOf('"') + 1, line.lastIndexOf('"')));
+        write("0", line.substring(line.indexOf('"') + 1, line.lastIndexOf('"')));
         String want = line.substring(line.lastIndexOf(" = ") + 3);
         dueCall("fault(0) = " + want);
         if (want.equals("NONE")) {
             due(line + ": house(0)", callBoth("house(0)") >= 2 ? 1 : 0, 1);
         } else {
             dueCall("house(0) = STATE");
+        }
+    }
+
+    private void dueConstant(String constant, int want) {
+        try {
+            due(constant, TripCalls.class.getField(constant).getInt(null), want);
+        } catch (ReflectiveOperationException e) {
+            throw new IllegalStateException(constant, e);
         }
     }
 

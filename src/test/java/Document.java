@@ -32,9 +32,13 @@ final class Document {
         }
     }
 
+    String section(String title) {
+        return sections.getOrDefault(title, "");
+    }
+
     /** Whether a section has these words; wherever they stand there, they count as quoted. */
     boolean quote(String title, String words) {
-        String section = sections.getOrDefault(title, "");
+        String section = section(title);
         boolean found = false;
         for (int at = section.indexOf(words); at >= 0; at = section.indexOf(words, at + 1)) {
             quoted.get(title).set(at, at + words.length());

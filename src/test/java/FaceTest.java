@@ -1,3 +1,4 @@
+import java.io.IOException;
 import java.lang.reflect.Constructor;
 import java.lang.reflect.Field;
 import java.lang.reflect.Method;
@@ -5,40 +6,48 @@ import java.lang.reflect.Modifier;
 import java.util.Arrays;
 import java.util.Set;
 import java.util.TreeSet;
+import java.util.regex.Matcher;
+import java.util.regex.Pattern;
 
 /** The public face as the document has it, and what LANGUAGE.md's rules 1, 2, 5 and 11 say of the classes. */
 public final class FaceTest {
     private static final Check CHECK = new Check("FaceTest");
-    private static final String[] FACE = {
-        "int row(int,int)", "int lay(int,int,int)", "int at(int,int)", "int tear(int)",
-        "int copy(int,int,int,int,int)", "int mean(int)", "int text(int,int)", "int put(int,int,int)",
-        "int fault(int)", "int house(int)", "int caller(int,int)", "int mark(int,int)", "int up(int)",
-        "int step()", "int flip(int)", "int room(int)", "int limit(int,int)", "int reset(int)", "int undo(int)",
-        "int keep(int)", "int on(int)", "int calls()", "int later(int,int)", "int trips(int)", "int worst()",
-        "int best(int)", "int mend(int)", "int tune(int,int)", "int hush(int)", "int patterns(int)",
-        "int kinds(int,int)", "int test(int,int)", "int duel(int)", "int odds(int,int)", "int mid(int)",
-        "int lots(int,int)", "int asked()", "long upper()", "long lower()", "int count(int)", "int finding()",
-        "int findings(int)", "long digest()"};
+    private static final Pattern METHOD = Pattern.compile("^    public (int|long) (\\w+)\\(([^)]*)\\);$", Pattern.MULTILINE);
+    private static final Pattern CONSTANTS = Pattern.compile("^    public static final int (.*);$", Pattern.MULTILINE);
 
-    public static void main(String[] args) {
-        constants();
-        methods();
+    public static void main(String[] args) throws IOException, ReflectiveOperationException {
+        String face = new Document().section("The public face");
+        constants(face);
+        methods(face);
         members();
         insideClasses();
         CHECK.end();
     }
 
-    private static void constants() {
-        CHECK.due("BAD", TripCalls.BAD, -1);
-        CHECK.due("FULL", TripCalls.FULL, -2);
-        CHECK.due("FINDING", TripCalls.FINDING, -3);
-        CHECK.due("STATE", TripCalls.STATE, -4);
-        CHECK.due("SPENT", TripCalls.SPENT, -6);
-        CHECK.due("NONE", TripCalls.NONE, -9);
-        CHECK.due("public fields", TripCalls.class.getFields().length, 6);
+    private static void constants(String face) throws ReflectiveOperationException {
+        Matcher told = CONSTANTS.matcher(face);
+        CHECK.due("the document tells constants", told.find() ? 1 : 0, 1);
+        String[] constants = told.group(1).split(", ");
+        for (String constant : constants) {
+            String[] nameAndNumber = constant.split(" = ");
+            Field field = TripCalls.class.getField(nameAndNumber[0]);
+            CHECK.due(nameAndNumber[0], field.getInt(null), Integer.parseInt(nameAndNumber[1]));
+            CHECK.due("int " + nameAndNumber[0], field.getType() == int.class ? 1 : 0, 1);
+        }
+        CHECK.due("public fields", TripCalls.class.getFields().length, constants.length);
     }
 
-    private static void methods() {
+    private static Set<String> methodsOf(String face) {
+        Set<String> told = new TreeSet<>();
+        Matcher method = METHOD.matcher(face);
+        while (method.find()) {
+            String types = method.group(3).replaceAll(" \\w+(,|$) *", "$1");
+            told.add(method.group(1) + " " + method.group(2) + "(" + types + ")");
+        }
+        return told;
+    }
+
+    private static void methods(String face) {
         Set<String> got = new TreeSet<>();
         Set<String> publicNames = new TreeSet<>();
         for (Method m : TripCalls.class.getDeclaredMethods()) {
@@ -48,8 +57,9 @@ public final class FaceTest {
                 publicNames.add(m.getName());
             }
         }
-        Set<String> want = new TreeSet<>(Arrays.asList(FACE));
-        CHECK.due("methods " + got, got.equals(want) ? 1 : 0, 1);
+        Set<String> want = methodsOf(face);
+        CHECK.due("methods of the document", want.size(), 43);
+        CHECK.due("methods " + got + ", due are " + want, got.equals(want) ? 1 : 0, 1);
         for (Class<?> c : withInside()) {
             for (Method m : c.getDeclaredMethods()) {
                 boolean clash = !Modifier.isPublic(m.getModifiers()) && publicNames.contains(m.getName());

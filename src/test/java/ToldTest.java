@@ -1,6 +1,9 @@
-/** Promises 38 to 44: what is told. */
+/** Promises 38 to 44: what is told; and that it is told up to an object's 512th call. */
 public final class ToldTest {
     private static final Check CHECK = new Check("ToldTest");
+    /** "An object is used for at most 512 calls after it has been made." */
+    private static final int CALLS_MOST = 512;
+    private static final int DEAREST = 8;
 
     public static void main(String[] args) {
         asked();
@@ -9,6 +12,8 @@ public final class ToldTest {
         findings();
         digestOfNew();
         digest();
+        findingsToTheLastCall();
+        dearestCallsToTheLastCall();
         CHECK.end();
     }
 
@@ -170,5 +175,45 @@ public final class ToldTest {
         x.finding();
         x.at(5, 0);
         CHECK.due("neither asked() nor finding() is in it", x.digest(), h);
+    }
+
+    private static void findingsToTheLastCall() {
+        TripCalls x = new TripCalls();
+        for (int call = 1; call < CALLS_MOST; call++) {
+            CHECK.due("call " + call, x.row(0, -1), TripCalls.FINDING);
+        }
+        CHECK.due("findings(5) as the last call", x.findings(5), CALLS_MOST - 1);
+    }
+
+    /** What is looked at aside leaves no trace, so that each call answers the same each time. */
+    private static void dearestCallsToTheLastCall() {
+        TripCalls x = new TripCalls();
+        String text = "4 p23 l22 t21 e32 s24 b13 p91";
+        Check.write(x, 0, text);
+        x.house(0);
+        Check.fill(x, 0, new int[20]);
+        int made = 1 + text.length() + 1 + 1 + 20;
+        long[] first = new long[DEAREST];
+        for (int call = 0; call < CALLS_MOST - made; call++) {
+            int which = call % DEAREST;
+            long got = dearest(x, which);
+            if (call < DEAREST) {
+                first[which] = got;
+            }
+            CHECK.due("call " + (made + call + 1) + ", of the dearest number " + which, got, first[which]);
+        }
+    }
+
+    private static long dearest(TripCalls x, int which) {
+        switch (which) {
+            case 0: return x.duel(4);
+            case 1: return x.hush(20);
+            case 2: return x.patterns(0);
+            case 3: return x.test(0, 0);
+            case 4: return x.mid(5);
+            case 5: return x.upper();
+            case 6: return x.mend(40);
+            default: return x.digest();
+        }
     }
 }
